@@ -137,7 +137,7 @@ public final class EdgeSweeps {
             return false;
         }
         long row = Rows.row(areaOf(layer, first), (int) y);
-        return (row >>> (int) x & 1L) != 0;
+        return ((row >>> (int) x) & 1L) != 0;
     }
 
     public long area2(int layer, int limb) throws IndexOutOfBoundsException {
@@ -438,7 +438,7 @@ public final class EdgeSweeps {
             int step = 1;
             for (int done = 0; done < by; done += step) {
                 step = Math.min(done + 1, by - done);
-                wide |= wide << step | wide >>> step;
+                wide |= (wide << step) | (wide >>> step);
             }
             return wide;
         }
@@ -448,7 +448,7 @@ public final class EdgeSweeps {
             int step = 1;
             for (int done = 0; done < by; done += step) {
                 step = Math.min(done + 1, by - done);
-                narrow &= narrow << step & narrow >>> step;
+                narrow &= (narrow << step) & (narrow >>> step);
             }
             return narrow;
         }
@@ -459,7 +459,7 @@ public final class EdgeSweeps {
             for (int width = SIDE / 2; width > 0; width >>= 1) {
                 for (int y = 0; y < SIDE; y++) {
                     if ((y & width) == 0) {
-                        long swap = (rows[y] >>> width ^ rows[y | width]) & low;
+                        long swap = ((rows[y] >>> width) ^ rows[y | width]) & low;
                         rows[y] ^= swap << width;
                         rows[y | width] ^= swap;
                     }
@@ -516,7 +516,7 @@ public final class EdgeSweeps {
 
         private static int lyingFactAt(long[] rows, int y, int x, int what) {
             long above = areaAbove(rows, y);
-            boolean isAbove = (above >>> x & 1L) != 0;
+            boolean isAbove = ((above >>> x) & 1L) != 0;
             switch (what) {
                 case LEAST_X:
                     return x;
@@ -603,9 +603,9 @@ public final class EdgeSweeps {
          * with x = 64, has no bit: it is one if the last squares of the two rows differ.
          */
         private static long cornersBetween(long below, long above) {
-            long standing = (below ^ below << 1) | (above ^ above << 1);
+            long standing = (below ^ (below << 1)) | (above ^ (above << 1));
             long differ = below ^ above;
-            return standing & (differ | differ << 1);
+            return standing & (differ | (differ << 1));
         }
     }
 
@@ -722,10 +722,11 @@ public final class EdgeSweeps {
                 rowStart[y] = runCount;
                 long left = rows[y];
                 int end = Math.min(runCount + Rows.countRuns(left), MOST_RUNS);
-                for (; runCount < end; runCount++) {
-                    squares[runCount] = Rows.firstRun(left);
-                    left ^= squares[runCount];
+                for (int run = runCount; run < end; run++) {
+                    squares[run] = Rows.firstRun(left);
+                    left ^= squares[run];
                 }
+                runCount = end;
             }
             rowStart[SIDE] = runCount;
         }
@@ -752,7 +753,7 @@ public final class EdgeSweeps {
             long starts = Rows.starts(contact);
             for (int left = Long.bitCount(starts); left > 0; left--) {
                 long start = starts & -starts;
-                long upTo = start | start - 1L;
+                long upTo = start | (start - 1L);
                 int runsUpTo = Long.bitCount(Rows.starts(below) & upTo);
                 join(firstBelow + runsUpTo - 1, run, head);
                 starts ^= start;

@@ -13,6 +13,7 @@ public final class ModelTests {
     private final int reach;
     private final int start;
     private final int layers;
+    private final boolean busy;
     private final Model model;
     private final List<Consumer<EdgeSweeps>> changes = new ArrayList<>();
     private EdgeSweeps sweeps;
@@ -20,6 +21,7 @@ public final class ModelTests {
 
     private ModelTests(long seed) {
         random = new Random(seed);
+        busy = seed % 4 == 3;
         int[] reaches = {5, 9, 16, 64};
         reach = reaches[random.nextInt(reaches.length)];
         int[] starts = {0, (64 - reach) / 2, 64 - reach};
@@ -65,7 +67,7 @@ public final class ModelTests {
     }
 
     private void drawPolygons() {
-        int polygons = 1 + random.nextInt(8);
+        int polygons = busy ? 16 : 1 + random.nextInt(8);
         for (int i = 0; i < polygons; i++) {
             int layer = random.nextInt(layers);
             int polygon = model.polygon(layer);
@@ -77,7 +79,7 @@ public final class ModelTests {
     private void drawCorners(int polygon) {
         int x = start + random.nextInt(reach + 1);
         int y = start + random.nextInt(reach + 1);
-        int corners = random.nextInt(12);
+        int corners = busy ? 14 : random.nextInt(12);
         addCorner(polygon, x, y);
         List<int[]> path = model.polygons.get(polygon);
         for (int i = 0; i < corners && path.size() < 14; i++) {
@@ -101,12 +103,12 @@ public final class ModelTests {
     }
 
     private void makeLayers() {
-        int count = random.nextInt(12);
+        int count = busy ? 8 + random.nextInt(17) : random.nextInt(12);
         for (int i = 0; i < count; i++) {
             int a = random.nextInt(model.allLayers());
             int b = random.nextInt(model.allLayers());
-            if (random.nextInt(5) < 3) {
-                int what = random.nextInt(6);
+            if (random.nextInt(busy ? 12 : 5) < (busy ? 11 : 3)) {
+                int what = busy && random.nextInt(3) > 0 ? 3 : random.nextInt(6);
                 int due = model.op(what, a, b);
                 change(s -> CHECK.same("op", s.op(what, a, b), due));
             } else {

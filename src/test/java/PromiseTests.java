@@ -417,6 +417,7 @@ public final class PromiseTests {
         int[] due = {0, 1, 2, 3};
         touchingAll(sweeps, 0, 1, due);
         Draw.box(sweeps, 0, 60, 60, 61, 61);
+        Draw.box(sweeps, 1, 60, 62, 61, 63);
         touchingAll(sweeps, 0, 1, due);
         touchingAll(sweeps, 1, 0, 1, 2, 3);
         touchingAll(sweeps, 0, 2);
@@ -474,12 +475,27 @@ public final class PromiseTests {
         for (int shape = 0; shape < joined.length; shape++) {
             CHECK.same("net of " + shape + " when joined", sweeps.netOf(0, shape), joined[shape]);
         }
+        netsJoinedLate();
         noLayer("netOf", sweeps, layer -> sweeps.netOf(layer, 0));
         int[] none = {-1, 5, LOW, HIGH};
         for (int shape : none) {
             CHECK.noIndex("net of shape " + shape, () -> sweeps.netOf(0, shape));
         }
         CHECK.noIndex("net of a shape of nothing", () -> sweeps.netOf(1, 0));
+    }
+
+    /** The second and third shape are joined first, and over the second one with the first one. */
+    private static void netsJoinedLate() {
+        EdgeSweeps sweeps = new EdgeSweeps(1);
+        Draw.box(sweeps, 0, 0, 0, 1, 2);
+        Draw.box(sweeps, 0, 4, 0, 5, 1);
+        Draw.box(sweeps, 0, 8, 0, 9, 1);
+        Draw.box(sweeps, 0, 5, 1, 8, 2);
+        Draw.box(sweeps, 0, 1, 2, 5, 3);
+        CHECK.same("shapes joined late", sweeps.shapes(0), 5);
+        for (int shape = 0; shape < 5; shape++) {
+            CHECK.same("net joined late, of " + shape, sweeps.netOf(0, shape), 0);
+        }
     }
 
     // Promise 13
