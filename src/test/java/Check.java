@@ -5,6 +5,7 @@ final class Check {
     }
 
     private final String name;
+    private String about = "";
     private int right = 0;
     private int wrong = 0;
 
@@ -12,13 +13,26 @@ final class Check {
         this.name = name;
     }
 
-    void same(String what, long got, long due) {
-        if (got == due) {
+    /** What the next ones are about: told with each that is not as it is due. */
+    void about(String words) {
+        about = words.isEmpty() ? "" : " " + words;
+    }
+
+    int looks() {
+        return right + wrong;
+    }
+
+    void text(String what, String got, String due) {
+        if (got.equals(due)) {
             right++;
         } else {
             wrong++;
-            System.out.println(name + ": " + what + " answered " + got + ", due is " + due);
+            System.out.println(name + about + ": " + what + " gave " + got + ", due is " + due);
         }
+    }
+
+    void same(String what, long got, long due) {
+        text(what, Long.toString(got), Long.toString(due));
     }
 
     void yes(String what, boolean got) {
@@ -37,12 +51,7 @@ final class Check {
         } catch (RuntimeException e) {
             got = e.getClass().getSimpleName();
         }
-        if (got.equals(due.getSimpleName())) {
-            right++;
-        } else {
-            wrong++;
-            System.out.println(name + ": " + what + " gave " + got + ", due is " + due.getSimpleName());
-        }
+        text(what, got, due.getSimpleName());
     }
 
     void noIndex(String what, Call call) {

@@ -18,6 +18,40 @@ final class Draw {
         return path(sweeps, layer, x, y, toX, y, toX, toY, x, toY);
     }
 
+    /** A box for each run of '#'; the first row given is the one with the greatest y. */
+    static void picture(EdgeSweeps sweeps, int layer, int x, int y, String... rows) {
+        for (int i = 0; i < rows.length; i++) {
+            String row = rows[rows.length - 1 - i] + ".";
+            for (int from = row.indexOf('#'); from >= 0;) {
+                int to = row.indexOf('.', from);
+                box(sweeps, layer, x + from, y + i, x + to, y + i + 1);
+                from = row.indexOf('#', to);
+            }
+        }
+    }
+
+    /** An object with one base layer that has the picture. */
+    static EdgeSweeps pictured(int x, int y, String... rows) {
+        EdgeSweeps sweeps = new EdgeSweeps(1);
+        picture(sweeps, 0, x, y, rows);
+        return sweeps;
+    }
+
+    /** An object with one base layer that is all of the plane. */
+    static EdgeSweeps plane() {
+        EdgeSweeps sweeps = new EdgeSweeps(1);
+        box(sweeps, 0, 0, 0, 64, 64);
+        return sweeps;
+    }
+
+    /** So many base layers, of which the first and the last one have all squares. */
+    static EdgeSweeps onEnds(int layers) {
+        EdgeSweeps sweeps = new EdgeSweeps(layers);
+        box(sweeps, 0, 0, 0, 64, 64);
+        box(sweeps, layers - 1, 0, 0, 64, 64);
+        return sweeps;
+    }
+
     /** Every second column of the plane from one x on, four to a polygon. */
     static void columns(EdgeSweeps sweeps, int layer, int from) {
         for (int x = from; x < 64; x += 8) {
