@@ -77,6 +77,25 @@ public final class OperationBoundaryTests {
         CHECK.yes("the one at the rim", sweeps.in(inside, 63, 63));
     }
 
+    /** The plane is inside no second one that lacks a square, wherever that square is. */
+    @Sentence(of = "Terms", words = "(all their squares are in it)")
+    static void insideAllButOneAtTheRims() {
+        int[] places = {0, 1, 32, 62, 63};
+        for (int x : places) {
+            for (int y : places) {
+                EdgeSweeps sweeps = new EdgeSweeps(3);
+                Draw.box(sweeps, 0, 0, 0, 64, 64);
+                Draw.box(sweeps, 1, x, y, x + 1, y + 1);
+                int lacking = sweeps.op(2, 0, 1);
+                String where = "square " + x + " " + y;
+                CHECK.same("the plane lacking " + where, sweeps.shapes(sweeps.op(4, 0, lacking)), 0);
+                CHECK.same(where + " in the rest", sweeps.shapes(sweeps.op(4, 1, lacking)), 0);
+                CHECK.same(where + " in the plane", sweeps.area2(sweeps.op(4, 1, 0), 0), 2);
+                CHECK.same("the rest in the plane", sweeps.area2(sweeps.op(4, lacking, 0), 0), 8190);
+            }
+        }
+    }
+
     @Sentence(of = "Terms", words = "5 those that TOUCH it.")
     static void touchingInAPointOrNot() {
         allPairs(5, 0, 0, 0, 0, 0, 4096, 4096, 4096, 0, 16, 16, 16, 0, 16, 16, 16);

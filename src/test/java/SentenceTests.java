@@ -14,11 +14,12 @@ public final class SentenceTests {
     public static void main(String[] args) throws Exception {
         Check check = new Check("SentenceTests");
         Document document = new Document(Path.of(args[1]));
-        check.text("Terms", unquoted(document, "Terms"), "");
+        check.yes("Terms are in the document", !document.text(document.nameOf("Terms")).isEmpty());
+        check.text("words of Terms without a test", unquoted(document, "Terms"), "");
         for (int promise = 1; promise <= PROMISES; promise++) {
             String name = "Promise " + promise;
             check.yes(name + " is in the document", !document.text(document.nameOf(name)).isEmpty());
-            check.text(name, unquoted(document, name), "");
+            check.text("words of " + name + " without a test", unquoted(document, name), "");
         }
         check.text("no promise behind the last one", document.nameOf("Promise " + (PROMISES + 1)), "");
         check.end();
