@@ -108,7 +108,7 @@ final class Model {
         return true;
     }
 
-    private static boolean inLine(int[] one, int[] other) {
+    static boolean inLine(int[] one, int[] other) {
         int differ = (one[0] != other[0] ? 1 : 0) + (one[1] != other[1] ? 1 : 0);
         return differ == 1;
     }
